@@ -38,6 +38,12 @@ public final class AskedTest {
     x.pass(0, EAST, 1);
     Due.is("press in a channel", x.ofCell(1, 1), 20 - 9);
     Due.is("worth in a channel with press", x.ofCell(1, 4), (94 + 11) / 4 + 55);
+    x.pass(0, NONE, 8);
+    Due.is("a channel's last hour", x.ofCell(1, 2), 1);
+    Due.is("worth in it", x.ofCell(1, 4), 105 / 4);
+    x.pass(0, NONE, 1);
+    Due.is("a channel that is closed", x.ofCell(1, 2), 0);
+    Due.is("worth without it", x.ofCell(1, 4), 105);
     x.land(14);
     Due.is("land", x.ofCell(14, 3), 1);
     Due.is("no land", x.ofCell(13, 3), 0);
@@ -177,12 +183,51 @@ public final class AskedTest {
     x.pass(0, 0, 1);
     Due.is("waits", x.many(7), 2);
     Due.is("damage", x.many(10), 2);
+    Due.is("damage of each", x.ofShip(0, 7) - x.ofShip(2, 7), 0);
     x.pass(0, NONE, 9);
     Due.is("channels are closing", x.many(2), 1);
     x.pass(0, NONE, 12);
     Due.is("no channel is left", x.many(2), 0);
+    sums();
     Due.badArgument(x, "many(-1)", () -> x.many(-1));
     Due.badArgument(x, "many(11)", () -> x.many(11));
+  }
+
+  /** The first and the last of all count. */
+  private static void sums() {
+    ChannelWinter x = new ChannelWinter();
+    x.port(0);
+    for (int ship = 0; ship < 5; ship++) {
+      x.ship(ship == 0 || ship == 4 ? 0 : 7, 1, 9, 0);
+    }
+    x.breaker(1, 100);
+    x.breaker(13, 100);
+    x.steer(0, 0);
+    x.steer(1, 14);
+    x.pass(0, NONE, 1);
+    Due.is("ships that arrived", x.many(4), 2);
+    Due.is("waits of the others", x.many(7), 3);
+    Due.is("channels", x.many(2), 2);
+    x.ice(0, 7);
+    x.ice(14, 8);
+    Due.is("ice of all", x.many(1), 15);
+    ChannelWinter y = new ChannelWinter();
+    y.port(14);
+    y.ship(1, 1, 9, 0);
+    y.breaker(1, 100);
+    y.tow(0, 0);
+    for (int ship = 1; ship < 5; ship++) {
+      y.ship(ship == 4 ? 1 : 7, 1, 9, 0);
+    }
+    y.lead(0, 4);
+    y.steer(0, 2);
+    y.pass(0, NONE, 1);
+    Due.is("dues of all", y.many(8), 13);
+    y.land(3);
+    y.ice(1, 60);
+    y.pass(0, EAST, 1);
+    Due.is("damage of all", y.many(10), 2);
+    Due.is("waits of all", y.many(7), 3 + 5);
   }
 
   private static void promise21() {

@@ -376,6 +376,12 @@ public final class PassTest {
     x.pass(0, NONE, 1);
     Due.is("it goes on", x.ofShip(0, 0), 2);
     Due.is("its dues are 8", x.ofShip(0, 8), 8);
+    x.pass(0, NONE, 1);
+    Due.is("then it waits for its breaker", x.ofShip(0, BY_BREAKER), 1);
+    Due.is("and is led yet", x.ofShip(0, 4), 1);
+    x.steer(0, 3);
+    x.pass(0, NONE, 1);
+    Due.is("and goes with it again", x.ofShip(0, 0), 3);
   }
 
   private static void shipsThatCanNotFollow() {
@@ -403,6 +409,8 @@ public final class PassTest {
     Due.is("the breaker leads none", x.ofBreaker(0, 3), 0);
     x.pass(0, NONE, 1);
     Due.is("then it goes by itself", x.ofShip(0, 0), 5);
+    Due.is("the other one has no route", x.ofShip(1, BY_NOTHING), 1);
+    Due.is("and does not wait for the breaker", x.ofShip(1, BY_BREAKER), 0);
   }
 
   private static void shipsAreTowed() {

@@ -6,15 +6,19 @@ public final class WouldBeTest {
   public static void main(String[] args) {
     promise22();
     promise22Channels();
+    promise22FirstCell();
     promise22Longest();
     promise23();
     promise23Fewest();
     promise23Press();
     promise24();
     promise24Waits();
+    promise24SixWaits();
     promise25();
     promise25Others();
+    promise25AsTheSeaIs();
     promise26();
+    promise26Edges();
     Due.end("WouldBeTest");
   }
 
@@ -74,6 +78,17 @@ public final class WouldBeTest {
     Due.is("6 of ice and a press of 6 are 31 in a channel", x.ofCell(1, 4), 31);
     x.ice(1, 3);
     Due.is("30 are not too much", x.way(0, 1), 1);
+  }
+
+  private static void promise22FirstCell() {
+    ChannelWinter x = new ChannelWinter();
+    x.port(0);
+    x.ship(1, 1, 9, 0);
+    Due.is("way to 0", x.way(0, 0), 1);
+    Due.is("no channel is needed", x.toBreak(0), 0);
+    x.ice(0, 31);
+    Due.is("no way to 0", x.way(0, 0), NONE);
+    Due.is("a channel is needed", x.toBreak(0), 1);
   }
 
   /** More cells than a route takes: a ship can be told more on its way. */
@@ -234,6 +249,25 @@ public final class WouldBeTest {
     Due.outOfBounds(x, "helpNext(2)", () -> x.helpNext(2));
   }
 
+  private static void promise24SixWaits() {
+    ChannelWinter x = new ChannelWinter();
+    x.port(4);
+    x.breaker(0, 0);
+    x.ship(1, 1, 1, 0);
+    x.ice(3, 30);
+    x.ice(4, 30);
+    x.pass(0, NONE, 5);
+    x.ship(0, 1, 1, 0);
+    x.ship(5, 1, 1, 0);
+    Due.is("the nearest one", x.helpNext(0), 1);
+    x.lead(0, 1);
+    Due.is("5 waits are nothing less, but the number is smaller", x.helpNext(0), 0);
+    x.halt(1);
+    Due.is("1 less 0, against 0", x.helpNext(0), 1);
+    x.pass(0, NONE, 1);
+    Due.is("1 less 1, against 0", x.helpNext(0), 0);
+  }
+
   private static void promise25() {
     ChannelWinter x = new ChannelWinter();
     Due.outOfBounds(x, "arriveIn(0, 0, 0, 0) without a ship", () -> x.arriveIn(0, 0, 0, 0));
@@ -309,6 +343,67 @@ public final class WouldBeTest {
     Due.is("exempt", x.arriveIn(4, 24, 0, NONE), 1);
   }
 
+  private static void promise25AsTheSeaIs() {
+    ChannelWinter x = new ChannelWinter();
+    x.port(2);
+    x.rule(0, 2, 24);
+    x.pass(0, NONE, 24);
+    x.breaker(0, 100);
+    x.ship(0, 1, 9, 0);
+    x.ship(2, 1, 9, 0);
+    x.ship(0, 2, 9, 0);
+    x.sail(2, 1);
+    x.sail(2, 2);
+    x.ice(1, 180);
+    Due.is("no channel there", x.arriveIn(2, 24, 0, NONE), NONE);
+    x.ice(1, 140);
+    x.steer(0, 1);
+    Due.is("a channel that would be there", x.arriveIn(2, 24, 0, NONE), 2);
+    x.halt(2);
+    x.pass(0, NONE, 1);
+    x.ice(1, 180);
+    x.sail(2, 1);
+    x.sail(2, 2);
+    Due.is("a channel that is there", x.arriveIn(2, 24, 0, NONE), 2);
+    Due.is("class 1 is kept out", x.arriveIn(1, 24, 0, NONE), NONE);
+    x.pass(0, NONE, 10);
+    Due.is("class 2 is let in", x.ofShip(2, 4), 3);
+    promise25InAChannel();
+    promise25ToAnotherPort();
+    ChannelWinter y = new ChannelWinter();
+    y.port(2);
+    y.ship(0, 1, 9, 0);
+    y.sail(0, 1);
+    y.sail(0, 2);
+    Due.is("no land in its way", y.arriveIn(0, 24, 0, NONE), 2);
+    y.land(1);
+    Due.is("land in its way", y.arriveIn(0, 24, 0, NONE), NONE);
+    Due.is("its route is not dropped", y.ofShip(0, 6), 2);
+    Due.is("it did not wait", y.many(7), 0);
+  }
+
+  /** The trial is the first one of its object: nothing of another can be left in it. */
+  private static void promise25InAChannel() {
+    ChannelWinter x = new ChannelWinter();
+    x.port(1);
+    x.breaker(0, 100);
+    x.ship(0, 1, 9, 0);
+    x.steer(0, 1);
+    x.pass(0, NONE, 1);
+    x.ice(1, 120);
+    x.sail(0, 1);
+    Due.is("a channel that is there", x.arriveIn(0, 24, 0, NONE), 1);
+  }
+
+  private static void promise25ToAnotherPort() {
+    ChannelWinter x = new ChannelWinter();
+    x.port(14);
+    x.port(1);
+    x.ship(0, 1, 9, 1);
+    x.sail(0, 1);
+    Due.is("its port is the second", x.arriveIn(0, 24, 0, NONE), 1);
+  }
+
   private static void promise26() {
     ChannelWinter x = new ChannelWinter();
     Due.is("digest() of a new object", x.digest(), -8033233564907934082L);
@@ -338,5 +433,42 @@ public final class WouldBeTest {
     }
     x.pass(3, EAST, 24);
     Due.is("digest() later", x.digest(), Digest.of(x, portCells));
+  }
+
+  /** Seas in which a neighbour of 6 HOURS, of a COLD of 1, of no WIND or of HOUR 100 answers otherwise. */
+  private static void promise26Edges() {
+    int[] portCells = {4};
+    for (int later = 99; later <= 101; later++) {
+      ChannelWinter x = new ChannelWinter();
+      x.port(4);
+      x.rule(0, 1, later);
+      Due.is("digest() with a rule from " + later, x.digest(), Digest.of(x, portCells));
+    }
+    int[][] routes = {{1, 2, 3, 8, 9, 4}, {1, 0, 1, 2, 3, 8, 9, 4}};
+    for (int[] route : routes) {
+      for (int gone = 0; gone <= 1; gone++) {
+        ChannelWinter x = new ChannelWinter();
+        x.port(4);
+        x.ship(0, 1, 9, 0);
+        for (int cell : route) {
+          x.sail(0, cell);
+        }
+        x.pass(0, NONE, 1 + gone);
+        int hours = route.length - 1 - gone;
+        Due.is("it arrives in " + hours, x.arriveIn(0, 24, 0, NONE), hours);
+        Due.is("digest(), " + hours + " hours ahead", x.digest(), Digest.of(x, portCells));
+      }
+    }
+    for (int ice = 20; ice <= 30; ice++) {
+      ChannelWinter x = new ChannelWinter();
+      x.port(4);
+      x.ship(0, 1, 9, 0);
+      for (int cell = 1; cell <= 4; cell++) {
+        x.sail(0, cell);
+      }
+      x.ice(4, ice);
+      x.ice(3, 16);
+      Due.is("digest() with " + ice + " of ice", x.digest(), Digest.of(x, portCells));
+    }
   }
 }
