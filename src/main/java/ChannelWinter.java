@@ -393,12 +393,12 @@ public final class ChannelWinter {
         if (canEnter(ship, cell)) {
             return 0;
         }
-        boolean helped = !cell.land && ship.hindrance(cell.worthInChannel()) == NONE;
+        boolean helped = !cell.land && ship.hindrance(cell.worthInChannel(), true) == NONE;
         return helped ? 1 : NONE;
     }
 
     private static boolean canEnter(Ship ship, Cell cell) {
-        return !cell.land && ship.hindrance(cell.worth()) == NONE;
+        return !cell.land && ship.hindrance(cell.worth(), true) == NONE;
     }
 
     private static boolean canTake(Breaker breaker, Ship ship) {
@@ -613,15 +613,11 @@ public final class ChannelWinter {
             }
         }
 
-        /** Why it can not enter by itself what is WORTH so much, NONE if it can. */
-        int hindrance(int worth) {
-            if (worth > 10 * power) {
+        /** Why it can not enter what is WORTH so much, NONE if it can: by itself, or by a BREAKER's power. */
+        int hindrance(int worth, boolean byItself) {
+            if (byItself && worth > 10 * power) {
                 return BY_POWER;
             }
-            return worth > bears ? BY_BEARING : NONE;
-        }
-
-        int hindranceInTow(int worth) {
             return worth > bears ? BY_BEARING : NONE;
         }
 
@@ -635,13 +631,21 @@ public final class ChannelWinter {
         }
 
         void setFree() {
-            bind(FREE, NONE);
+            status = FREE;
+            breaker = NONE;
         }
 
-        void follow(int target) {
+        /** Goes behind its BREAKER: returns the REASON for which it WAITS, NONE if it went. */
+        int follow(int target, int worth) {
+            int reason = hindrance(worth, status != TOWED);
+            if (reason != NONE) {
+                setFree();
+                return reason;
+            }
             cell = target;
             route.drop();
             dues += status == TOWED ? TOWED_DUES : LED_DUES;
+            return NONE;
         }
 
         void arrive(int hour) {
@@ -910,7 +914,7 @@ public final class ChannelWinter {
                 ship.route.drop();
                 return NOTHING_TOLD;
             }
-            int reason = ship.hindrance(target.worth());
+            int reason = ship.hindrance(target.worth(), true);
             if (reason == NONE) {
                 ship.cell = next;
                 ship.route.takeFirst();
@@ -922,25 +926,13 @@ public final class ChannelWinter {
         private int goBound(Ship ship) {
             Breaker breaker = breakerAt(ship.breaker);
             if (breaker.left == ship.cell) {
-                return goBehind(ship, breaker);
+                return ship.follow(breaker.cell, cellAt(breaker.cell).worth());
             }
             if (breaker.left == NONE && breaker.cell == ship.cell) {
                 return BY_BREAKER;
             }
             ship.setFree();
             return goFree(ship);
-        }
-
-        /** Returns the REASON for which it WAITS, NONE if it went. */
-        private int goBehind(Ship ship, Breaker breaker) {
-            int worth = cellAt(breaker.cell).worth();
-            int reason = ship.status == TOWED ? ship.hindranceInTow(worth) : ship.hindrance(worth);
-            if (reason == NONE) {
-                ship.follow(breaker.cell);
-            } else {
-                ship.setFree();
-            }
-            return reason;
         }
 
         boolean isTaken(int cell) {
