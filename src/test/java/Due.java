@@ -6,8 +6,24 @@ final class Due {
 
   private static int wrong = 0;
   private static int checked = 0;
+  private static String sentence = "";
+  private static int checkedAhead = 0;
 
   private Due() {
+  }
+
+  /** The words of the document against which the answers from here on are held. */
+  static void sentence(String words) {
+    endSentence();
+    sentence = words;
+    checkedAhead = checked;
+  }
+
+  private static void endSentence() {
+    if (!sentence.isEmpty() && checked == checkedAhead) {
+      wrong++;
+      System.out.println("nothing was held against \"" + sentence + "\"");
+    }
   }
 
   static void is(String call, long got, long want) {
@@ -26,6 +42,29 @@ final class Due {
     }
   }
 
+  /** Names the sentence and the test's line in place of the call. */
+  static void isHere(String got, String want) {
+    checked++;
+    if (!got.equals(want)) {
+      wrong++;
+      System.out.println(place() + " (" + sentence + "): " + got + ", due is " + want);
+    }
+  }
+
+  static void isHere(long got, long want) {
+    isHere(Long.toString(got), Long.toString(want));
+  }
+
+  private static String place() {
+    for (StackTraceElement frame : new Throwable().getStackTrace()) {
+      String owner = frame.getClassName();
+      if (!owner.equals("Due") && !owner.equals("Scene")) {
+        return frame.getFileName() + ":" + frame.getLineNumber();
+      }
+    }
+    return "somewhere";
+  }
+
   static void outOfBounds(ChannelWinter x, String name, Call call) {
     refuses(x, IndexOutOfBoundsException.class, name, call);
   }
@@ -38,7 +77,7 @@ final class Due {
     refuses(x, IllegalStateException.class, name, call);
   }
 
-  /** The digest tells nearly all of an object: a refused call has to leave it as it was. */
+  /** The digest tells much of an object, and fast: Scene compares all of one that had a refused call. */
   private static void refuses(ChannelWinter x, Class<? extends RuntimeException> due, String name, Call call) {
     checked++;
     long before = x.digest();
@@ -58,6 +97,7 @@ final class Due {
   }
 
   static void end(String test) {
+    endSentence();
     System.out.println(test + ": " + checked + " answers looked at, " + wrong + " not as due");
     if (wrong != 0 || checked == 0) {
       System.exit(1);
