@@ -622,6 +622,9 @@ public final class EdgesGoingTest {
     Due.sentence("section 3: DAMAGE only for one that WAITS, in the CELL where it then is");
     Scene goes = sea(7, 7).with(x -> x.ship(1, 1, 9, 0), x -> x.ship(0, 4, 9, 0)).sail(0, 6).sail(1, 1).with(EAST_HOUR);
     goes.due(6, x -> x.ofShip(0, 0)).due(1, x -> x.ofShip(1, 0)).due(0, x -> x.many(10)).due(0, x -> x.many(7));
+    Scene behind = sea(7, 7).with(x -> x.breaker(0, 99)).times(2, x -> x.ship(0, 3, 9, 0));
+    behind = behind.with(x -> x.lead(0, 0), x -> x.tow(0, 1)).steer(0, 1).with(EAST_HOUR).due(13, x -> x.many(8));
+    behind.due(7, x -> x.ofCell(1, 1)).due(2, x -> x.ofCell(1, 5)).due(0, x -> x.many(10)).due(0, x -> x.many(7));
     Scene into = Scene.of(x -> x.port(1), x -> x.rule(0, 4, 24)).calm(24).land(2).with(x -> x.ship(6, 3, 9, 0));
     into = into.sail(0, 1).with(x -> x.ice(0, 60), EAST_HOUR).due(1, x -> x.ofShip(0, 0));
     into.due(1, x -> x.ofShip(0, 13)).due(1, x -> x.ofShip(0, 7));
