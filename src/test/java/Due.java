@@ -27,8 +27,12 @@ final class Due {
   }
 
   static void is(String call, long got, long want) {
+    is(call, Long.toString(got), Long.toString(want));
+  }
+
+  static void is(String call, String got, String want) {
     checked++;
-    if (got != want) {
+    if (!got.equals(want)) {
       wrong++;
       System.out.println(call + " answered " + got + ", due is " + want);
     }
